@@ -241,7 +241,7 @@ public final class DefinitionsTest {
         } else if (kind < 7) {
             int price = below(3) == 0 ? below(24) - 1 : 1 + below(5);
             due("price(" + condition + ", " + price + ")", x.price(condition, price), price(condition, price));
-        } else if (draft.size() >= longest || kind < 9) {
+        } else if (kind < (draft.size() >= longest ? 20 : 9)) {
             due("add()", x.add(), add());
         } else {
             int literal = below(8) == 0 ? number(10) : below(literals);

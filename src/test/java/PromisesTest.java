@@ -278,6 +278,7 @@ public final class PromisesTest {
         }
         x = with(c(4), c(4), c(4), c(4), c(4), c(4), c(4), c(0), c(1));
         due("11: of the last two", x.kernel(0), 384);
+        due("11: all conditions", with(c(0, 2), c(0, 3), c(1, 2), c(1, 3)).kernel(0), 15);
     }
 
     private static void corrections() {
@@ -367,6 +368,7 @@ public final class PromisesTest {
         }
         due("17: no condition", new ConflictSets().blame(0), -1);
         x = with(c(0), c(1), c(1), c(1), c(1), c(1), c(1), c(1), c(1));
+        due("17: all conditions are the kernel", with(c(0), c(1)).blame(1), 1);
         due("17: in eight", x.blame(0), 8);
         due("17: in one", x.blame(8), 1);
     }
