@@ -1,4 +1,4 @@
-// One group of checks for each promise of the document, with answers worked out by hand.
+// One group of checks for each promise of the document, worked out by hand; EdgesTest has the edges one by one.
 public final class PromisesTest {
     private static final int[] NO_NUMBERS = {-1, Integer.MIN_VALUE, Integer.MAX_VALUE};
     private static int wrong = 0;
@@ -32,35 +32,6 @@ public final class PromisesTest {
     /** The conditions a; not a; not a or b; not b: kernels {0,1} and {0,2,3}. */
     private static ConflictSets twoKernels() {
         return with(c(0), c(1), c(1, 2), c(3));
-    }
-
-    /** Every question, so that a change of state by a refused call or a question shows. */
-    private static String answers(ConflictSets x) {
-        StringBuilder all = new StringBuilder();
-        int m = x.conditions();
-        all.append(m).append(" k");
-        for (int i = 0; i < x.kernels(); i++) {
-            all.append(' ').append(x.kernel(i));
-        }
-        all.append(" c");
-        for (int i = 0; i < x.corrections(); i++) {
-            all.append(' ').append(x.correction(i));
-        }
-        all.append(' ').append(x.cheapest()).append(' ').append(x.cheapestSet());
-        all.append(' ').append(x.smallest()).append(' ').append(x.core());
-        for (int i = 0; i < m; i++) {
-            int set = 1 << i;
-            all.append(" | ").append(x.width(i)).append(' ').append(x.blame(i));
-            all.append(' ').append(x.possible(set)).append(' ').append(x.model(set)).append(' ').append(x.sort(set));
-        }
-        return all.toString();
-    }
-
-    private static void same(String what, String got, String want) {
-        if (!got.equals(want)) {
-            wrong++;
-            System.out.println(what + " changed <" + want + "> to <" + got + ">");
-        }
     }
 
     private static void newObject() {
@@ -411,33 +382,6 @@ public final class PromisesTest {
         due("20: no condition", new ConflictSets().width(0), -1);
     }
 
-    private static void refusedAndQuestions() {
-        ConflictSets x = twoKernels();
-        x.price(0, 4);
-        x.price(2, 2);
-        String before = answers(x);
-        same("asking", answers(x), before);
-        x.literal(10);
-        x.add();
-        x.remove(4);
-        x.price(4, 2);
-        x.price(0, 21);
-        x.possible(16);
-        x.model(-1);
-        x.model(3);
-        x.kernel(2);
-        x.correction(-1);
-        x.blame(4);
-        x.sort(16);
-        x.width(4);
-        same("a refused call", answers(x), before);
-        due("draft after refused calls", x.clear(), 0);
-        x.literal(6);
-        same("a draft", answers(x), before);
-        due("draft after questions", x.clear(), 1);
-        due("price after questions", x.price(0, 4), 4);
-    }
-
     public static void main(String[] args) {
         newObject();
         literal();
@@ -461,7 +405,6 @@ public final class PromisesTest {
         core();
         sort();
         width();
-        refusedAndQuestions();
         System.out.println(wrong == 0 ? "all answers are as due" : wrong + " answers are not as due");
         if (wrong != 0) {
             System.exit(1);
