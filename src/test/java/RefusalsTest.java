@@ -2,7 +2,7 @@ import java.util.ArrayList;
 import java.util.List;
 import java.util.TreeSet;
 
-// Every refused call and every question, with any int in many states: the answer due, and nothing is changed by it.
+// Each kind of refused call and of question in seven states: the answer of a refusal, and that nothing is changed.
 public final class RefusalsTest {
     /** The least and the greatest int, and numbers that a narrower type or a shift would turn into good ones. */
     private static final int[] FAR = {
